@@ -263,7 +263,7 @@ public final class BoulderDowry {
             case 6:
                 return hill.next[place];
             case 7:
-                return hill.dropOf(place);
+                return hill.drop[place];
             case 8:
                 return oneIf(now.hasNet(place));
             case 9:
@@ -405,8 +405,8 @@ public final class BoulderDowry {
             return refuse(REFUSED_ROLLING);
         }
         remember();
-        mover.begin(hill, now, ledger);
-        mover.pushStone(stone, PUSH_OF_A_MAN * men);
+        mover.pushOne(hill, now, stone, PUSH_OF_A_MAN * men);
+        ledger.settle(hill, now, mover);
         return mover.pathLength;
     }
 
@@ -419,8 +419,8 @@ public final class BoulderDowry {
 
     private int springNow(int strength) {
         remember();
-        mover.begin(hill, now, ledger);
-        mover.pushAll(strength);
+        mover.pushAll(hill, now, strength);
+        ledger.settle(hill, now, mover);
         return mover.rolls;
     }
 
@@ -512,14 +512,12 @@ public final class BoulderDowry {
 
     private void tryPush(int stone, int push) {
         trial.copy(now);
-        mover.begin(hill, trial, null);
-        mover.pushStone(stone, push);
+        mover.pushOne(hill, trial, stone, push);
     }
 
     private void tryThaw(int thaw) {
         trial.copy(now);
-        mover.begin(hill, trial, null);
-        mover.pushAll(hill.strength[thaw]);
+        mover.pushAll(hill, trial, hill.strength[thaw]);
     }
 
     public int path(int stone, int push, int k) {
@@ -723,8 +721,7 @@ public final class BoulderDowry {
         long waited = 0;
         for (int i = 0; i < hill.count[THAW] && then != null; i++) {
             then.copy(from);
-            mover.begin(hill, then, null);
-            mover.pushAll(hill.strength[i]);
+            mover.pushAll(hill, then, hill.strength[i]);
             waited += hill.odds[i] * worthWithin(then, stone, owner, left - 1);
         }
         return waited;
@@ -752,8 +749,7 @@ public final class BoulderDowry {
         }
         trial.copy(now);
         trial.move(stone, place);
-        mover.begin(hill, trial, null);
-        mover.rollOnce(stone);
+        mover.rollWhateverItsRest(hill, trial, stone);
         return trial.place[stone] == now.place[stone];
     }
 
@@ -844,7 +840,7 @@ public final class BoulderDowry {
         if (stone == NONE) {
             return NONE;
         }
-        int load = hill.weight[stone] * hill.dropOf(now.place[stone]);
+        int load = hill.weight[stone] * hill.drop[now.place[stone]];
         int spareStrength = hill.ropesTogether() - load;
         switch (what) {
             case 0:
@@ -1016,6 +1012,7 @@ public final class BoulderDowry {
         int high;
         final int[] height = new int[MAX_CELLS];
         final int[] next = new int[MAX_CELLS];
+        final int[] drop = new int[MAX_CELLS];
         final int[] rough = new int[MAX_CELLS];
         final int[] holds = new int[MAX_CELLS];
         final int[] land = new int[MAX_CELLS];
@@ -1049,7 +1046,7 @@ public final class BoulderDowry {
         }
 
         boolean hasCell(int place) {
-            return within(place, wide * high);
+            return place >= 0 && place < wide * high;
         }
 
         int named(int sort) {
@@ -1093,6 +1090,7 @@ public final class BoulderDowry {
                 best = lower(best, place + wide, place + wide < cells());
                 best = lower(best, place - 1, across > 0);
                 next[place] = best == place ? NONE : best;
+                drop[place] = height[place] - height[best];
             }
         }
 
@@ -1102,11 +1100,6 @@ public final class BoulderDowry {
 
         int nextOf(int place) {
             return hasCell(place) ? next[place] : NONE;
-        }
-
-        int dropOf(int place) {
-            int to = nextOf(place);
-            return to == NONE ? 0 : height[place] - height[to];
         }
 
         int bottomOf(int place) {
@@ -1183,10 +1176,10 @@ public final class BoulderDowry {
         /** Puts a stone into a cell, or out of all of them (NONE). */
         void move(int stone, int to) {
             int from = place[stone];
-            if (within(from, MAX_CELLS)) {
+            if (from >= 0 && from < MAX_CELLS) {
                 stoneAt[from] = NONE;
             }
-            if (within(to, MAX_CELLS)) {
+            if (to >= 0 && to < MAX_CELLS) {
                 stoneAt[to] = stone;
             }
             place[stone] = to;
@@ -1216,12 +1209,12 @@ public final class BoulderDowry {
             if (slope.nextOf(at) == NONE) {
                 return NONE;
             }
-            return Math.max(0, slope.rest[stone] - slope.dropOf(at) + 1);
+            return Math.max(0, slope.rest[stone] - slope.drop[at] + 1);
         }
 
         boolean starts(Slope slope, int stone, int push) {
-            int least = leastPush(slope, stone);
-            return least != NONE && push >= least;
+            int at = place[stone];
+            return at >= 0 && at < MAX_CELLS && slope.next[at] != NONE && push + slope.drop[at] > slope.rest[stone];
         }
 
         /** The fewest men who start a stone; NONE if none do. */
@@ -1284,7 +1277,18 @@ public final class BoulderDowry {
             return within(at, rows.length) ? rows[at] : NONE;
         }
 
-        void charge(State state, int payer, int receiver, int sum, int stone) {
+        /** Lets the laws say what is due for all that a mover has broken. */
+        void settle(Slope slope, State state, Mover mover) {
+            for (int i = 0; i < mover.claimCount; i++) {
+                int at = i * Mover.CLAIM_COLUMNS;
+                int[] claim = mover.claims;
+                int stone = claim[at + 2];
+                int sum = slope.laws.dueOf(slope.weight[stone], claim[at + 3], claim[at + 4], claim[at + 5], claim[at + 6]);
+                charge(state, claim[at], claim[at + 1], sum, stone);
+            }
+        }
+
+        private void charge(State state, int payer, int receiver, int sum, int stone) {
             state.balance[payer] -= sum;
             state.balance[receiver] += sum;
             if (sum > 0 && state.told < MAX_DUES) {
@@ -1300,6 +1304,10 @@ public final class BoulderDowry {
 
     /** Rolls stones over a state, and tells what came of it. */
     static final class Mover {
+        static final int CLAIM_COLUMNS = 7;
+        // No wall is built and no house mended while stones roll.
+        private static final int MAX_CLAIMS = MAX_CELLS + MAX_HOUSES;
+
         final int[] path = new int[MAX_CELLS];
         int pathLength;
         int rolls;
@@ -1308,20 +1316,20 @@ public final class BoulderDowry {
         int wallsGone;
         int topSpeed;
         long entered;
+        // Of each: payer, receiver, stone, speed, worth, whether it was a wall, steps.
+        final int[] claims = new int[MAX_CLAIMS * CLAIM_COLUMNS];
+        int claimCount;
         private Slope slope;
         private State state;
-        private Ledger ledger;
         private boolean firstRoll;
         private int stone;
         private int speed;
         private int steps;
         private int payer;
 
-        /** Without a ledger (null) no dues are reckoned. */
-        void begin(Slope on, State of, Ledger dues) {
+        private void begin(Slope on, State of) {
             slope = on;
             state = of;
-            ledger = dues;
             firstRoll = true;
             pathLength = 0;
             rolls = 0;
@@ -1330,30 +1338,36 @@ public final class BoulderDowry {
             wallsGone = 0;
             topSpeed = 0;
             entered = 0;
+            claimCount = 0;
         }
 
-        void pushAll(int push) {
-            for (int i = 0; i < slope.count[STONE]; i++) {
-                pushStone(i, push);
+        void pushAll(Slope on, State of, int push) {
+            pushSome(on, of, 0, on.count[STONE], push, false);
+        }
+
+        void pushOne(Slope on, State of, int which, int push) {
+            pushSome(on, of, which, which + 1, push, false);
+        }
+
+        /** Each stone of a row of them that starts by a push rolls, and all that it pushes. */
+        void pushSome(Slope on, State of, int from, int to, int push, boolean stopsAtRuin) {
+            begin(on, of);
+            for (int i = from; i < to && i < MAX_STONES && !(stopsAtRuin && ruined > 0); i++) {
+                int rolling = state.starts(slope, i, push) ? i : NONE;
+                // A pushed stone goes on below the one that pushes it, so none comes twice.
+                for (int k = 0; k < MAX_STONES && rolling != NONE; k++) {
+                    rolling = rollOnce(rolling);
+                }
             }
         }
 
-        void pushUntilRuin(int push) {
-            for (int i = 0; i < slope.count[STONE] && ruined == 0; i++) {
-                pushStone(i, push);
-            }
-        }
-
-        void pushStone(int first, int push) {
-            int rolling = state.starts(slope, first, push) ? first : NONE;
-            // A pushed stone only goes on below the one that pushes it, so none comes twice.
-            for (int i = 0; i < MAX_STONES && rolling != NONE; i++) {
-                rolling = rollOnce(rolling);
-            }
+        void rollWhateverItsRest(Slope on, State of, int which) {
+            begin(on, of);
+            rollOnce(which);
         }
 
         /** One roll of a stone that lies somewhere; answers the stone that this starts, or NONE. */
-        int rollOnce(int which) {
+        private int rollOnce(int which) {
             stone = which;
             speed = 0;
             steps = 0;
@@ -1363,18 +1377,18 @@ public final class BoulderDowry {
             int pushed = NONE;
             boolean rolling = true;
             for (int i = 0; i < MAX_CELLS && rolling; i++) {
-                int here = state.place[which];
-                int next = slope.nextOf(here);
+                int next = slope.nextOf(state.place[which]);
                 if (next == NONE) {
                     break;
                 }
-                speed += slope.dropOf(here);
+                speed += slope.drop[state.place[which]];
                 topSpeed = Math.max(topSpeed, speed);
                 int other = state.stoneAt[next];
                 if (other == NONE) {
-                    rolling = goesOnFrom(next);
+                    rolling = goesOnFrom(next, speed * slope.weight[which]);
                 } else {
-                    pushed = startedBy(other);
+                    int push = quotient(speed * slope.weight[which], slope.weight[other]);
+                    pushed = state.starts(slope, other, push) ? other : NONE;
                     rolling = false;
                 }
             }
@@ -1382,29 +1396,28 @@ public final class BoulderDowry {
             return pushed;
         }
 
-        private int force() {
-            return speed * slope.weight[stone];
-        }
-
-        private int startedBy(int other) {
-            return state.starts(slope, other, quotient(force(), slope.weight[other])) ? other : NONE;
-        }
-
         private static int quotient(int whole, int by) {
             return by > 0 ? whole / by : 0;
         }
 
         /** What happens at the next cell, in which no stone is; answers whether the stone rolls on from it. */
-        private boolean goesOnFrom(int next) {
+        private boolean goesOnFrom(int next, int force) {
             int held = state.holds[next];
+            int house = slope.houseAt[next];
+            if (held > 0 && force <= held) {
+                state.holds[next] = held - force;
+                return false;
+            }
             if (held > 0) {
-                if (force() <= held) {
-                    state.holds[next] = held - force();
-                    return false;
-                }
-                breakWall(next, held);
-            } else if (state.hasWholeHouse(slope, next)) {
-                ruinHouse(slope.houseAt[next], next);
+                claim(next, held, 1);
+                state.holds[next] = 0;
+                wallsGone++;
+                speed = quotient(force - held, slope.weight[stone]);
+            } else if (house != NONE && !state.isRuin(house)) {
+                claim(next, slope.worth[house], 0);
+                state.ruins |= 1 << house;
+                ruined++;
+                ruinedWorth += slope.worth[house];
                 comeInto(next);
                 return false;
             }
@@ -1416,31 +1429,26 @@ public final class BoulderDowry {
             return speed > 0;
         }
 
-        private void breakWall(int at, int held) {
-            claim(at, held, 1);
-            state.holds[at] = 0;
-            wallsGone++;
-            speed = quotient(force() - held, slope.weight[stone]);
-        }
-
-        private void ruinHouse(int house, int at) {
-            claim(at, slope.worth[house], 0);
-            state.ruins |= 1 << house;
-            ruined++;
-            ruinedWorth += slope.worth[house];
-        }
-
         private void claim(int at, int worth, int isWall) {
-            int receiver = slope.ownerOf(at);
-            if (ledger == null || payer == NONE || receiver == NONE || payer == receiver) {
+            int receiver = slope.land[at];
+            if (payer == NONE || receiver == NONE || payer == receiver || claimCount >= MAX_CLAIMS) {
                 return;
             }
-            int sum = slope.laws.dueOf(slope.weight[stone], speed, worth, isWall, steps);
-            ledger.charge(state, payer, receiver, sum, stone);
+            int row = claimCount * CLAIM_COLUMNS;
+            claims[row] = payer;
+            claims[row + 1] = receiver;
+            claims[row + 2] = stone;
+            claims[row + 3] = speed;
+            claims[row + 4] = worth;
+            claims[row + 5] = isWall;
+            claims[row + 6] = steps;
+            claimCount++;
         }
 
         private void comeInto(int at) {
-            state.move(stone, at);
+            state.stoneAt[state.place[stone]] = NONE;
+            state.stoneAt[at] = stone;
+            state.place[stone] = at;
             state.comes[stone]++;
             steps++;
             entered |= 1L << at;
@@ -1530,8 +1538,7 @@ public final class BoulderDowry {
             for (int i = 0; i < slope.count[THAW]; i++) {
                 trial.copy(now);
                 trial.nets |= nets;
-                mover.begin(slope, trial, null);
-                mover.pushUntilRuin(slope.strength[i]);
+                mover.pushSome(slope, trial, 0, slope.count[STONE], slope.strength[i], true);
                 if (mover.ruined > 0) {
                     return mover.entered;
                 }
@@ -1616,8 +1623,7 @@ public final class BoulderDowry {
             order[depth] = which;
             men[which] = fewest;
             then.copy(from);
-            mover.begin(slope, then, null);
-            mover.pushStone(stones[which], PUSH_OF_A_MAN * fewest);
+            mover.pushOne(slope, then, stones[which], PUSH_OF_A_MAN * fewest);
             place(then, depth + 1, used);
         }
 
@@ -1808,40 +1814,43 @@ public final class BoulderDowry {
         }
     }
 
-    /** The words, numbers and signs of a text, none read ahead of need, so that the first fault along it is the first met. */
+    /** The words, numbers and signs of a text, and its fault; a broken one is a fault only where a reader comes to it. */
     static final class Tokens {
         static final int NAME_LETTERS = 6;
         static final int END = 0;
-        static final int WORD = 1;
-        static final int NUMBER = 2;
-        static final int SIGN = 3;
-        static final int BROKEN = 4;
+        static final int NAME = 1;
+        static final int OWN = 2;
+        static final int NUMBER = 3;
+        static final int SIGN = 4;
+        static final int BROKEN = 5;
         private static final int NUMBER_DIGITS = 4;
         private static final int LETTER_BITS = 5;
 
         private final int[] own = new int[OWN_COUNT];
-        private int[] text;
-        private int length;
-        private int at;
-        private int wordEnd;
-        private boolean seen;
-        private int kind;
+        private final int[] kinds = new int[MAX_TAPE + 1];
+        private final int[] firsts = new int[MAX_TAPE + 1];
+        private final int[] values = new int[MAX_TAPE + 1];
+        private int count;
+        private int index;
+        // The token that comes, and where the fault is if no slope goes on with it.
+        int kind;
         int first;
         int value;
-        int word;
+        int unfitAt;
+        int takenFirst;
         int fault;
         int faultAt = NONE;
 
         Tokens() {
-            int index = 0;
+            int word = 0;
             int letters = 0;
             for (int i = 0; i < OWN_WORDS.length(); i++) {
                 char sign = OWN_WORDS.charAt(i);
                 if (sign == ' ') {
-                    index++;
+                    word++;
                     letters = 0;
-                } else if (index < OWN_COUNT) {
-                    own[index] = withLetter(own[index], letters, sign);
+                } else if (word < OWN_COUNT) {
+                    own[word] = withLetter(own[word], letters, sign);
                     letters++;
                 }
             }
@@ -1856,70 +1865,37 @@ public final class BoulderDowry {
             return packed >> LETTER_BITS * (NAME_LETTERS - 1 - k) & 31;
         }
 
-        void begin(int[] bytes, int count) {
-            text = bytes;
-            length = bytes == null ? 0 : Math.min(count, bytes.length);
-            at = 0;
-            wordEnd = NONE;
-            seen = false;
-            kind = END;
-            first = 0;
+        void begin(int[] text, int length) {
             fault = 0;
             faultAt = NONE;
-        }
-
-        void fail(int what, int where) {
-            if (fault == 0) {
-                fault = what;
-                faultAt = where;
+            count = 0;
+            boolean wordy = false;
+            int at = 0;
+            while (at < length && at < text.length) {
+                int sign = text[at];
+                int from = at;
+                if (isLetter(sign) || isDigit(sign)) {
+                    at = isLetter(sign) ? readWord(text, from, length) : readNumber(text, from, length);
+                    if (wordy) {
+                        // A word and a number side by side need a blank.
+                        breakLast(from);
+                    }
+                    wordy = true;
+                } else {
+                    if (!isBlank(sign)) {
+                        put(SIGN, from, sign);
+                    }
+                    wordy = false;
+                    at++;
+                }
             }
+            put(END, length, 0);
+            index = NONE;
+            advance();
         }
 
-        /** No slope goes on with the token that was looked at. */
-        void failHere() {
-            fail(FAULT_SYNTAX, first);
-        }
-
-        /** Where the next byte stands that is no blank, or NONE; no token is read for that. */
-        int nextByteAt() {
-            skipBlanks();
-            return fault == 0 && at < length ? at : NONE;
-        }
-
-        private void skipBlanks() {
-            while (at < length && (text[at] == ' ' || text[at] == 10)) {
-                at++;
-            }
-        }
-
-        /** The kind of the next token, which stays the next one until it is taken. */
-        int look() {
-            if (!seen && fault == 0) {
-                readToken();
-                seen = true;
-            }
-            return fault == 0 ? kind : BROKEN;
-        }
-
-        void take() {
-            seen = false;
-        }
-
-        private void readToken() {
-            skipBlanks();
-            first = at;
-            value = 0;
-            if (at >= length) {
-                kind = END;
-            } else if (isLetter(text[at])) {
-                readWord();
-            } else if (isDigit(text[at])) {
-                readNumber();
-            } else {
-                kind = SIGN;
-                value = text[at];
-                at++;
-            }
+        private static boolean isBlank(int sign) {
+            return sign == ' ' || sign == 10;
         }
 
         private static boolean isLetter(int sign) {
@@ -1930,39 +1906,42 @@ public final class BoulderDowry {
             return sign >= '0' && sign <= '9';
         }
 
-        private void readWord() {
-            failIfGlued();
-            kind = WORD;
-            while (at < length && fault == 0 && isLetter(text[at])) {
-                if (at - first >= NAME_LETTERS) {
-                    fail(FAULT_SYNTAX, at);
-                } else {
-                    value = withLetter(value, at - first, text[at]);
+        private void put(int what, int from, int number) {
+            if (count < kinds.length) {
+                kinds[count] = what;
+                firsts[count] = from;
+                values[count] = number;
+                count++;
+            }
+        }
+
+        private void breakLast(int where) {
+            if (count > 0) {
+                kinds[count - 1] = BROKEN;
+                values[count - 1] = where;
+            }
+        }
+
+        /** Puts the word from there on; answers where it ends. */
+        private int readWord(int[] text, int from, int length) {
+            int packed = 0;
+            int at = from;
+            while (at < length && at < text.length && isLetter(text[at])) {
+                if (at - from < NAME_LETTERS) {
+                    packed = withLetter(packed, at - from, text[at]);
                 }
                 at++;
             }
-            wordEnd = at;
-            word = ownWord(value);
-        }
-
-        private void readNumber() {
-            failIfGlued();
-            kind = NUMBER;
-            while (at < length && fault == 0 && isDigit(text[at])) {
-                if (at - first >= NUMBER_DIGITS) {
-                    fail(FAULT_SYNTAX, at);
-                } else {
-                    value = 10 * value + text[at] - '0';
-                }
-                at++;
+            int which = ownWord(packed);
+            if (which == NONE) {
+                put(NAME, from, packed);
+            } else {
+                put(OWN, from, which);
             }
-            wordEnd = at;
-        }
-
-        private void failIfGlued() {
-            if (first == wordEnd) {
-                failHere();
+            if (at - from > NAME_LETTERS) {
+                breakLast(from + NAME_LETTERS);
             }
+            return at;
         }
 
         private int ownWord(int packed) {
@@ -1974,52 +1953,92 @@ public final class BoulderDowry {
             return NONE;
         }
 
+        /** Puts the number from there on; answers where it ends. */
+        private int readNumber(int[] text, int from, int length) {
+            int number = 0;
+            int at = from;
+            while (at < length && at < text.length && isDigit(text[at])) {
+                if (at - from < NUMBER_DIGITS) {
+                    number = 10 * number + text[at] - '0';
+                }
+                at++;
+            }
+            put(NUMBER, from, number);
+            if (at - from > NUMBER_DIGITS) {
+                breakLast(from + NUMBER_DIGITS);
+            }
+            return at;
+        }
+
+        /** Goes on to the next token; behind a fault there is none. */
+        void advance() {
+            takenFirst = first;
+            if (fault == 0 && index + 1 < count) {
+                index++;
+                kind = kinds[index];
+                first = firsts[index];
+                value = values[index];
+                unfitAt = kind == BROKEN ? value : first;
+            }
+        }
+
+        void fail(int what, int where) {
+            if (fault == 0) {
+                fault = what;
+                faultAt = where;
+                // So that whatever a reader still asks for is not there.
+                kind = BROKEN;
+            }
+        }
+
         boolean isSign(char sign) {
-            return look() == SIGN && value == sign;
+            return kind == SIGN && value == sign;
         }
 
         boolean isOwn(int which) {
-            return look() == WORD && word == which;
+            return kind == OWN && value == which;
         }
 
         void needSign(char sign) {
-            if (isSign(sign)) {
-                take();
+            if (kind == SIGN && value == sign) {
+                advance();
             } else {
-                failHere();
+                fail(FAULT_SYNTAX, unfitAt);
             }
         }
 
         void needOwn(int which) {
-            if (isOwn(which)) {
-                take();
+            if (kind == OWN && value == which) {
+                advance();
             } else {
-                failHere();
+                fail(FAULT_SYNTAX, unfitAt);
             }
         }
 
         /** The number that comes, or NONE with a fault. */
         int needNumber(int least, int most) {
-            if (look() != NUMBER) {
-                failHere();
+            int number = value;
+            if (kind != NUMBER) {
+                fail(FAULT_SYNTAX, unfitAt);
                 return NONE;
             }
-            take();
-            if (!between(value, least, most)) {
+            if (number < least || number > most) {
                 fail(FAULT_NUMBER, first);
                 return NONE;
             }
-            return value;
+            advance();
+            return number;
         }
 
         /** The name that comes, packed, or NONE with a fault. */
         int needName() {
-            if (look() != WORD || word != NONE) {
-                failHere();
+            int name = value;
+            if (kind != NAME) {
+                fail(FAULT_SYNTAX, unfitAt);
                 return NONE;
             }
-            take();
-            return value;
+            advance();
+            return name;
         }
     }
 
@@ -2035,16 +2054,15 @@ public final class BoulderDowry {
             slope.clear();
             tokens.begin(text, length);
             int statements = 0;
-            while (statements <= MAX_STATEMENTS && tokens.nextByteAt() != NONE) {
-                if (statements == MAX_STATEMENTS) {
-                    tokens.fail(FAULT_TOO_MANY, tokens.nextByteAt());
-                } else {
-                    readStatement(statements == 0);
-                }
+            while (statements < MAX_STATEMENTS && tokens.fault == 0 && tokens.kind != Tokens.END) {
+                readStatement(statements == 0);
                 statements++;
             }
             if (statements == 0) {
-                tokens.fail(FAULT_SYNTAX, length);
+                tokens.fail(FAULT_SYNTAX, tokens.unfitAt);
+            }
+            if (tokens.kind != Tokens.END) {
+                tokens.fail(FAULT_TOO_MANY, tokens.first);
             }
             if (tokens.fault == 0) {
                 slope.findNexts();
@@ -2053,52 +2071,7 @@ public final class BoulderDowry {
         }
 
         private void readStatement(boolean isFirst) {
-            int kind = tokens.look() == Tokens.WORD ? tokens.word : NONE;
-            int most = mostOf(kind);
-            if (most == NONE || isFirst != (kind == FIELD)) {
-                tokens.failHere();
-                return;
-            }
-            if (slope.count[kind] >= most) {
-                tokens.fail(FAULT_TOO_MANY, tokens.first);
-                return;
-            }
-            tokens.take();
-            readRest(kind);
-            tokens.needSign(';');
-            slope.count[kind]++;
-        }
-
-        /** How many statements of a kind there may be; NONE for a word that begins none. */
-        private int mostOf(int kind) {
-            switch (kind) {
-                case FIELD:
-                    return 1;
-                case ROW:
-                    return slope.high;
-                case ROUGH:
-                case LAND:
-                    return MAX_STATEMENTS;
-                case OWNER:
-                    return MAX_OWNERS;
-                case STONE:
-                    return MAX_STONES;
-                case HOUSE:
-                    return MAX_HOUSES;
-                case WALL:
-                    return MAX_WALLS;
-                case THAW:
-                    return MAX_THAWS;
-                case ROPE:
-                    return MAX_ROPES;
-                case DUE:
-                    return MAX_LAWS;
-                default:
-                    return NONE;
-            }
-        }
-
-        private void readRest(int kind) {
+            int kind = needKind(isFirst);
             switch (kind) {
                 case FIELD:
                     readField();
@@ -2130,9 +2103,58 @@ public final class BoulderDowry {
                 case ROPE:
                     slope.rope[slope.count[ROPE]] = tokens.needNumber(1, MAX_NUMBER);
                     break;
-                default:
+                case DUE:
                     lawReader.readLaw(tokens, slope.laws);
                     break;
+                default:
+                    return;
+            }
+            tokens.needSign(';');
+            slope.count[kind]++;
+        }
+
+        /** The word that begins the statement that comes, or NONE with a fault. */
+        private int needKind(boolean isFirst) {
+            int kind = tokens.kind == Tokens.OWN ? tokens.value : NONE;
+            int most = mostOf(kind);
+            if (most == NONE || isFirst != (kind == FIELD)) {
+                tokens.fail(FAULT_SYNTAX, tokens.unfitAt);
+                return NONE;
+            }
+            if (slope.count[kind] >= most) {
+                tokens.fail(FAULT_TOO_MANY, tokens.first);
+                return NONE;
+            }
+            tokens.advance();
+            return kind;
+        }
+
+        /** How many statements of a kind there may be; NONE for a word that begins none. */
+        private int mostOf(int kind) {
+            switch (kind) {
+                case FIELD:
+                    return 1;
+                case ROW:
+                    return slope.high;
+                case ROUGH:
+                case LAND:
+                    return MAX_STATEMENTS;
+                case OWNER:
+                    return MAX_OWNERS;
+                case STONE:
+                    return MAX_STONES;
+                case HOUSE:
+                    return MAX_HOUSES;
+                case WALL:
+                    return MAX_WALLS;
+                case THAW:
+                    return MAX_THAWS;
+                case ROPE:
+                    return MAX_ROPES;
+                case DUE:
+                    return MAX_LAWS;
+                default:
+                    return NONE;
             }
         }
 
@@ -2221,7 +2243,7 @@ public final class BoulderDowry {
             int name = tokens.needName();
             for (int sort = 0; sort < Slope.SORTS; sort++) {
                 if (slope.find(sort, name) != NONE) {
-                    tokens.fail(FAULT_NAME_TWICE, tokens.first);
+                    tokens.fail(FAULT_NAME_TWICE, tokens.takenFirst);
                 }
             }
             return name;
@@ -2230,7 +2252,7 @@ public final class BoulderDowry {
         private int needOwner() {
             int owner = slope.find(Slope.SORT_OWNER, tokens.needName());
             if (owner == NONE) {
-                tokens.fail(FAULT_NO_OWNER, tokens.first);
+                tokens.fail(FAULT_NO_OWNER, tokens.takenFirst);
             }
             return owner;
         }
@@ -2247,7 +2269,7 @@ public final class BoulderDowry {
             tokens.needOwn(AT);
             int place = needCell(0, 0);
             if (place != NONE && !slope.isFree(place)) {
-                tokens.fail(FAULT_NUMBER, tokens.first);
+                tokens.fail(FAULT_NUMBER, tokens.takenFirst);
                 return NONE;
             }
             return place;
@@ -2273,7 +2295,7 @@ public final class BoulderDowry {
         private void readTest(int open) {
             readBoth(open);
             for (int i = 0; i < MAX_TAPE && tokens.isOwn(OR); i++) {
-                tokens.take();
+                tokens.advance();
                 readBoth(open);
                 book.put(LawBook.EITHER);
             }
@@ -2282,7 +2304,7 @@ public final class BoulderDowry {
         private void readBoth(int open) {
             readFact(open);
             for (int i = 0; i < MAX_TAPE && tokens.isOwn(AND); i++) {
-                tokens.take();
+                tokens.advance();
                 readFact(open);
                 book.put(LawBook.BOTH);
             }
@@ -2291,7 +2313,7 @@ public final class BoulderDowry {
         private void readFact(int open) {
             boolean negated = false;
             for (int i = 0; i < MAX_TAPE && tokens.isOwn(NOT); i++) {
-                tokens.take();
+                tokens.advance();
                 negated = !negated;
             }
             if (tokens.isSign('[')) {
@@ -2300,18 +2322,20 @@ public final class BoulderDowry {
                     tokens.needSign(']');
                 }
             } else if (tokens.isOwn(ALL)) {
-                tokens.take();
+                tokens.advance();
                 book.put(1);
             } else {
-                readComparison(open);
+                readSum(open);
+                int code = needComparison();
+                readSum(open);
+                book.put(code);
             }
             if (negated) {
                 book.put(LawBook.NEGATE);
             }
         }
 
-        private void readComparison(int open) {
-            readSum(open);
+        private int needComparison() {
             int code = 0;
             if (tokens.isSign('<')) {
                 code = LawBook.BELOW;
@@ -2320,18 +2344,17 @@ public final class BoulderDowry {
             } else if (tokens.isSign('=')) {
                 code = LawBook.EQUAL;
             } else {
-                tokens.failHere();
+                tokens.fail(FAULT_SYNTAX, tokens.unfitAt);
             }
-            tokens.take();
-            readSum(open);
-            book.put(code);
+            tokens.advance();
+            return code;
         }
 
         private void readSum(int open) {
             readProduct(open);
             for (int i = 0; i < MAX_TAPE && (tokens.isSign('+') || tokens.isSign('-')); i++) {
                 int code = tokens.value == '+' ? LawBook.ADD : LawBook.SUBTRACT;
-                tokens.take();
+                tokens.advance();
                 readProduct(open);
                 book.put(code);
             }
@@ -2341,7 +2364,7 @@ public final class BoulderDowry {
             readPart(open);
             for (int i = 0; i < MAX_TAPE && productCode() != 0; i++) {
                 int code = productCode();
-                tokens.take();
+                tokens.advance();
                 readPart(open);
                 book.put(code);
             }
@@ -2358,29 +2381,28 @@ public final class BoulderDowry {
         }
 
         private void readPart(int open) {
-            int kind = tokens.look();
-            if (kind == Tokens.NUMBER) {
+            if (tokens.kind == Tokens.NUMBER) {
                 book.put(tokens.value);
-                tokens.take();
+                tokens.advance();
             } else if (tokens.isOwn(MIN) || tokens.isOwn(MAX)) {
-                readChoice(tokens.word == MIN ? LawBook.LEAST : LawBook.GREATEST, open);
+                readChoice(tokens.value == MIN ? LawBook.LEAST : LawBook.GREATEST, open);
             } else if (tokens.isSign('(')) {
                 if (opens(open)) {
                     readSum(open + 1);
                     tokens.needSign(')');
                 }
-            } else if (kind == Tokens.WORD && factCode(tokens.word) != 0) {
-                book.put(factCode(tokens.word));
-                tokens.take();
+            } else if (tokens.kind == Tokens.OWN && factCode(tokens.value) != 0) {
+                book.put(factCode(tokens.value));
+                tokens.advance();
             } else {
-                tokens.failHere();
+                tokens.fail(FAULT_SYNTAX, tokens.unfitAt);
             }
         }
 
         private void readChoice(int code, int open) {
-            tokens.take();
+            tokens.advance();
             if (!tokens.isSign('(')) {
-                tokens.failHere();
+                tokens.fail(FAULT_SYNTAX, tokens.unfitAt);
             } else if (opens(open)) {
                 readSum(open + 1);
                 tokens.needSign(',');
@@ -2396,7 +2418,7 @@ public final class BoulderDowry {
                 tokens.fail(FAULT_TOO_MANY, tokens.first);
                 return false;
             }
-            tokens.take();
+            tokens.advance();
             return true;
         }
 
