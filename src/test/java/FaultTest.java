@@ -58,6 +58,9 @@ public final class FaultTest {
     private static void syntax() {
         fault("", 1, 0);
         fault("  \n ", 1, 4);
+        fault(";".repeat(1600), 1, 0);
+        fault(F + "due " + "1+".repeat(793), 1, 1600);
+        fine(F + "due " + "1+".repeat(787) + "1 when all;", 2);
         fault("row 1 2;", 1, 0);
         fault("  fields 2 2;", 1, 2);
         fault("Field 2 2;", 1, 0);
@@ -210,6 +213,10 @@ public final class FaultTest {
         marked("due 1 when [[[[[[[[!(1)=1]]]]]]]];", 5);
         marked("due 1 when [[[[[[[[![all]]]]]]]]];", 5);
         marked("due 1 when [[[[((((min!(1,2)))))=1]]]];", 5);
+        marked("due min(1,(((((((!(1", 5);
+        marked("due max((((((((!(1", 5);
+        marked("due (((((((max(1,!(1", 5);
+        fine(F + "due min((((((((1))))))),(((((((1)))))))) when all;", 2);
         marked("due ((((((((1!(2", 1);
         marked("due ((((((((![2", 1);
         fine(F + "due ((((((((1))))))))+((((((((2)))))))) when [[[[min(((max(1,2))),3)>1]]]];", 2);

@@ -240,6 +240,13 @@ public final class PromiseTest {
         due("22: balance undone", x.owner(0, 4), 0);
         x.take(1);
         x.dig(4, 1);
+        BoulderDowry one = stair("stone s weight 1 rest 0 at 0 1;house h worth 1 at 0 2;due worth when all;");
+        one.spring(0);
+        due("12: a due of 1 is told", one.has(12), 1);
+        due("12: a due of 1", one.due(0, 2), 1);
+        BoulderDowry none = stair("stone s weight 1 rest 0 at 0 1;house h worth 1 at 0 2;due worth-1 when all;");
+        none.spring(0);
+        due("12: a due of 0 is not", none.has(12), 0);
         due("14: a wall holds", x.lever(0, 1), 1);
         due("8: so much less", x.cell(4, 4), 560);
         due("12: none for a wall that holds", x.has(12), 0);
@@ -280,6 +287,26 @@ public final class PromiseTest {
         due("22: paid ahead of it", x.owner(0, 4), -7 * 84);
     }
 
+    /** Six stones, nine walls below each: 54 dues by one spring. */
+    private static void manyDuesAtOnce() {
+        StringBuilder text = new StringBuilder("field 6 10;owner a;owner b;land a at 0 0 to 5 0;land b at 0 1 to 5 9;due 7 when all;");
+        for (int i = 0; i < 10; i++) {
+            text.append("row" + (" " + (900 - 90 * i)).repeat(6) + ";");
+        }
+        for (int i = 0; i < 6; i++) {
+            text.append("stone s" + (char) ('a' + i) + " weight 999 rest 0 at " + i + " 0;");
+        }
+        BoulderDowry x = Check.of(text.toString());
+        for (int i = 6; i < 60; i++) {
+            due("19: built", x.wall(i, i), true);
+        }
+        due("6: more walls than a text may tell", x.has(3), 54);
+        due("15: six rolls", x.spring(0), 6);
+        due("12: all are told", x.has(12), 54);
+        due("11: all are paid", x.owner(0, 4), -7 * 54);
+        due("12: stone by stone", x.due(53, 3), 5);
+    }
+
     private static void laws() {
         BoulderDowry x = Check.of("field 2 2;due weight-speed when worth>9998 or wall=1 and steps<3;due 9999+speed when not steps=3 and not not[speed=1];"
                 + "due (0-7)/2+100 when speed=2;due (0-7)%3*10+7%(0-3) when speed=3;due 7/0+7%0+4 when speed=4;"
@@ -303,6 +330,14 @@ public final class PromiseTest {
             due("13: worth " + bad, x.law(0, 0, bad, 0, 0), NONE);
             due("13: steps " + bad, x.law(0, 0, 0, 0, bad), NONE);
         }
+        StringBuilder deep = new StringBuilder("1");
+        for (int i = 0; i < 8; i++) {
+            deep.insert(0, "1+2*max(3,").append(")");
+        }
+        BoulderDowry y = Check.of("field 2 2;due 1 when 0=1 or all and 5+1*1<" + deep + ";due " + deep + " when all;");
+        due("13: eight open", y.law(0, 0, 0, 0, 0), 1);
+        y = Check.of("field 2 2;due 1 when 0=1 or all and 5000+1*1<" + deep + ";due " + deep + " when all;");
+        due("13: 7, 15, 31 and so on", y.law(0, 0, 0, 0, 0), 1023);
         due("13: 0 without a law", stair("").law(9999, 9999, 9999, 1, 9999), 0);
     }
 
@@ -501,6 +536,13 @@ public final class PromiseTest {
         due("II: not gone by force above", x.roll(0, 0, 2), 0);
         x.lever(0, 1);
         due("II: gone at 0", x.has(3), 0);
+        BoulderDowry y = Check.of("field 2 2;row 1 1;owner a;owner b;land a at 0 0 to 1 0;land b at 0 1 to 1 1;"
+                + "stone s weight 1 rest 0 at 0 0;wall 1 at 0 1;due 1 when all;");
+        due("II: force 1, wall 1", y.lever(0, 1), 0);
+        due("II: gone at 0", y.has(3), 0);
+        due("II: without a due", y.has(12), 0);
+        y.wall(3, 1);
+        due("II: nothing but the wall is in the way", y.lever(0, 1), 1);
         x = stair(s + "wall 29 at 0 1;");
         due("II: force 30, wall 29: speed 0", x.roll(0, 0, 0), 2);
         due("24: wall gone by force", x.roll(0, 0, 2), 1);
@@ -601,8 +643,10 @@ public final class PromiseTest {
         x.take(0);
         due("30: taken", x.crew(3, 1, NONE), NONE);
         due("29: taken", x.men(0, 1), NONE);
-        BoulderDowry y = stair("stone s weight 1 rest 0 at 0 0;stone t weight 1 rest 0 at 0 2;stone u weight 1 rest 0 at 1 3;stone v weight 1 rest 0 at 1 4;");
-        due("30: four are too many", y.crew(15, 1, NONE), NONE);
+        BoulderDowry y = Check.of("field 2 2;owner o;land o at 0 0 to 1 1;stone s weight 1 rest 0 at 0 0;stone t weight 1 rest 0 at 1 0;"
+                + "stone u weight 1 rest 0 at 0 1;stone v weight 1 rest 0 at 1 1;");
+        due("30: three that lie there already", y.crew(14, 0, NONE), 0);
+        due("30: four are too many", y.crew(15, 0, NONE), NONE);
     }
 
     /** Orders matter: a stone that lies in the way must go first, or it is pushed along for nothing. */
@@ -613,6 +657,14 @@ public final class PromiseTest {
         due("30: by numbers", x.crew(3, 1, 1), 6);
         due("30: order", x.crew(3, 1, 10), 1);
         due("30: order", x.crew(3, 1, 11), 0);
+        BoulderDowry z = Check.of("field 3 2;row 51 13 14;row 2 5 32;owner o;land o at 0 1 to 2 1;"
+                + "stone a weight 8 rest 7 at 2 1;stone b weight 1 rest 26 at 1 1;stone c weight 3 rest 29 at 2 0;");
+        int[] fewest = {1, 0, 3};
+        due("30: fewer than what is tried first", z.crew(7, 0, NONE), 4);
+        for (int k = 0; k < 3; k++) {
+            due("30: men", z.crew(7, 0, k), fewest[k]);
+            due("30: order", z.crew(7, 0, 10 + k), k);
+        }
         BoulderDowry y = Check.of("field 3 3;row 9 9 9;row 5 5 5;row 1 1 1;owner o;land o at 0 1 to 2 2;"
                 + "stone a weight 1 rest 0 at 0 0;stone b weight 1 rest 0 at 1 0;stone c weight 1 rest 0 at 2 0;");
         due("30: three", y.crew(7, 0, NONE), 3);
@@ -641,6 +693,11 @@ public final class PromiseTest {
         due("31: k", x.nets(3), NONE);
         due("31: no field", new BoulderDowry().nets(NONE), NONE);
         due("31: no thaws", stair("").nets(NONE), 0);
+        BoulderDowry up = Check.of("field 2 3;row 5 9;row 3 9;row 1 9;stone s weight 1 rest 0 at 1 0;house h worth 1 at 0 2;thaw 0 odds 1;");
+        due("31: one", up.nets(NONE), 1);
+        due("31: place 0", up.nets(0), 0);
+        up.wall(0, 1);
+        due("31: not at place 0", up.nets(0), 2);
         StringBuilder four = new StringBuilder("field 4 4;row 9 9 9 9;row 7 7 7 7;row 5 5 5 5;row 3 3 3 3;thaw 0 odds 1;");
         for (int i = 0; i < 3; i++) {
             four.append("stone s" + (char) ('a' + i) + " weight 1 rest 0 at " + i + " 0;house h" + (char) ('a' + i) + " worth 1 at " + i + " 3;");
@@ -831,6 +888,25 @@ public final class PromiseTest {
         due("39: refused", y.status(5), 1);
     }
 
+    private static void largestImage() {
+        StringBuilder text = new StringBuilder("field 10 6;");
+        for (int i = 0; i < 10; i++) {
+            text.append("stone s" + (char) ('a' + i) + " weight 1 rest 0 at " + i + " 5;");
+        }
+        for (int i = 0; i < 8; i++) {
+            text.append("house h" + (char) ('a' + i) + " worth 1 at " + i + " 4;");
+        }
+        BoulderDowry x = Check.of(text.toString());
+        x.net(59, true);
+        byte[] image = Check.image(x);
+        due("37: bytes", image.length, 20 + 8 + 240 + 1);
+        due("38: the last cell's net", x.octet(267), 1);
+        x.net(59, false);
+        Check.feed(x, image);
+        due("39: on", x.on(), true);
+        due("39: the last cell's net", x.cell(59, 8), 1);
+    }
+
     private static BoulderDowry spoiled;
 
     private static void spoil(String what, byte[] image, int at, int octet, boolean want) {
@@ -927,6 +1003,7 @@ public final class PromiseTest {
         owners();
         dues();
         manyDues();
+        manyDuesAtOnce();
         laws();
         levers();
         pushes();
@@ -947,6 +1024,7 @@ public final class PromiseTest {
         roping();
         images();
         putOn();
+        largestImage();
         badImages();
         statuses();
         Check.finish("PromiseTest");
