@@ -665,6 +665,16 @@ public final class PromiseTest {
             due("30: men", z.crew(7, 0, k), fewest[k]);
             due("30: order", z.crew(7, 0, 10 + k), k);
         }
+        BoulderDowry like = Check.of("field 2 5;row 209 999;row 207 999;row 179 999;row 152 999;row 149 999;owner o;land o at 0 1 to 0 1;"
+                + "land o at 0 3 to 0 4;rough 16 at 0 2;rough 20 at 0 4;stone a weight 2 rest 41 at 0 0;stone b weight 3 rest 13 at 0 2;"
+                + "stone c weight 3 rest 9 at 0 3;");
+        int[] first = {4, 0, 1};
+        int[] order = {1, 2, 0};
+        due("30: five men, as 4 1 0 in an earlier order", like.crew(7, 0, NONE), 5);
+        for (int k = 0; k < 3; k++) {
+            due("30: fewest of the second", like.crew(7, 0, k), first[k]);
+            due("30: the order for that", like.crew(7, 0, 10 + k), order[k]);
+        }
         BoulderDowry y = Check.of("field 3 3;row 9 9 9;row 5 5 5;row 1 1 1;owner o;land o at 0 1 to 2 2;"
                 + "stone a weight 1 rest 0 at 0 0;stone b weight 1 rest 0 at 1 0;stone c weight 1 rest 0 at 2 0;");
         due("30: three", y.crew(7, 0, NONE), 3);
