@@ -29,7 +29,7 @@ public final class BoulderDowry {
     private static final int MAX_ROUGH = 99;
     private static final int MAX_PUSH = 99999;
     private static final int PUSH_OF_A_MAN = 10;
-    private static final int MAX_IMAGE = 2 * MAX_STONES + MAX_HOUSES + 4 * MAX_CELLS + 1;
+    private static final int MAX_IMAGE = MAX_STONES + MAX_HOUSES + 4 * MAX_CELLS + 1;
 
     private static final String OWN_WORDS = "field row rough at owner land to stone weight rest house worth wall thaw odds rope due when or and not all speed steps min max";
     // The own words by their places in OWN_WORDS; what a slope has is counted by them too.
@@ -749,8 +749,7 @@ public final class BoulderDowry {
         }
         trial.copy(now);
         trial.move(stone, place);
-        mover.rollWhateverItsRest(hill, trial, stone);
-        return trial.place[stone] == now.place[stone];
+        return mover.rollsAlone(hill, trial, stone) && trial.place[stone] == now.place[stone];
     }
 
     public int leans(int first, int second) {
@@ -893,8 +892,7 @@ public final class BoulderDowry {
     public int image() {
         pictureLength = 0;
         for (int i = 0; i < hill.count[STONE]; i++) {
-            putInPicture(Math.max(0, now.place[i]));
-            putInPicture(oneIf(now.place[i] != NONE));
+            putInPicture(now.place[i] == NONE ? 0 : now.place[i] + 1);
         }
         for (int i = 0; i < hill.count[HOUSE]; i++) {
             putInPicture(oneIf(now.isRuin(i)));
@@ -944,7 +942,7 @@ public final class BoulderDowry {
     private boolean isImage() {
         int stones = hill.count[STONE];
         int houses = hill.count[HOUSE];
-        int length = 2 * stones + houses + 4 * hill.cells() + 1;
+        int length = stones + houses + 4 * hill.cells() + 1;
         if (tapeLength != length || length > MAX_IMAGE || tape[length - 1] != checkOf(tape, length - 1)) {
             return false;
         }
@@ -952,7 +950,7 @@ public final class BoulderDowry {
         for (int i = 0; i < stones; i++) {
             trial.move(i, NONE);
         }
-        return readCells(2 * stones + houses) && readHouses(2 * stones) && readStones();
+        return readCells(stones + houses) && readHouses(stones) && readStones();
     }
 
     private boolean readCells(int from) {
@@ -982,16 +980,12 @@ public final class BoulderDowry {
 
     private boolean readStones() {
         for (int i = 0; i < hill.count[STONE]; i++) {
-            int place = tape[2 * i];
-            int lies = tape[2 * i + 1];
-            if (lies > 1 || lies == 0 && place != 0) {
-                return false;
-            }
-            if (lies == 1) {
-                if (!hill.hasCell(place) || trial.isBarred(hill, place)) {
+            int told = tape[i];
+            if (told > 0) {
+                if (!hill.hasCell(told - 1) || trial.isBarred(hill, told - 1)) {
                     return false;
                 }
-                trial.move(i, place);
+                trial.move(i, told - 1);
             }
         }
         return true;
@@ -1313,6 +1307,7 @@ public final class BoulderDowry {
         int rolls;
         int ruined;
         int ruinedWorth;
+        int wallsMet;
         int wallsGone;
         int topSpeed;
         long entered;
@@ -1335,6 +1330,7 @@ public final class BoulderDowry {
             rolls = 0;
             ruined = 0;
             ruinedWorth = 0;
+            wallsMet = 0;
             wallsGone = 0;
             topSpeed = 0;
             entered = 0;
@@ -1361,9 +1357,11 @@ public final class BoulderDowry {
             }
         }
 
-        void rollWhateverItsRest(Slope on, State of, int which) {
+        /** Rolls a stone once, whatever its rest; answers whether this alters no wall, no house, no other stone. */
+        boolean rollsAlone(Slope on, State of, int which) {
             begin(on, of);
-            rollOnce(which);
+            int started = rollOnce(which);
+            return started == NONE && wallsMet == 0 && ruined == 0;
         }
 
         /** One roll of a stone that lies somewhere; answers the stone that this starts, or NONE. */
@@ -1404,6 +1402,7 @@ public final class BoulderDowry {
         private boolean goesOnFrom(int next, int force) {
             int held = state.holds[next];
             int house = slope.houseAt[next];
+            wallsMet += oneIf(held > 0);
             if (held > 0 && force <= held) {
                 state.holds[next] = held - force;
                 return false;

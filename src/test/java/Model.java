@@ -1,4 +1,5 @@
 import java.util.ArrayList;
+import java.util.Arrays;
 import java.util.List;
 import java.util.Random;
 
@@ -171,7 +172,7 @@ final class Model {
     }
 
     /** One roll, and then those of what it pushes. */
-    void roll(int stone, boolean follow) {
+    void roll(int stone) {
         Stone s = stones.get(stone);
         int payer = land[s.place];
         int speed = 0;
@@ -186,8 +187,8 @@ final class Model {
             int force = speed * s.weight;
             int other = stoneAt(to);
             if (other >= 0) {
-                if (follow && starts(other, force / stones.get(other).weight)) {
-                    roll(other, true);
+                if (starts(other, force / stones.get(other).weight)) {
+                    roll(other);
                 }
                 return;
             }
@@ -252,7 +253,7 @@ final class Model {
 
     void push(int stone, int push) {
         if (starts(stone, push)) {
-            roll(stone, true);
+            roll(stone);
         }
     }
 
@@ -452,12 +453,24 @@ final class Model {
             }
             Model m = copy();
             m.stones.get(stone).place = i;
-            m.roll(stone, false);
-            if (m.stones.get(stone).place == lies) {
+            m.roll(stone);
+            if (m.stones.get(stone).place == lies && likeBut(m, stone)) {
                 from.add(i);
             }
         }
         return from;
+    }
+
+    /** Whether in another model all walls, houses and stones, but for one stone, are as they are here. */
+    boolean likeBut(Model other, int stone) {
+        boolean like = Arrays.equals(holds, other.holds);
+        for (int i = 0; i < houses.size(); i++) {
+            like &= houses.get(i).ruin == other.houses.get(i).ruin;
+        }
+        for (int i = 0; i < stones.size(); i++) {
+            like &= i == stone || stones.get(i).rolls == other.stones.get(i).rolls;
+        }
+        return like;
     }
 
     boolean held(int stone) {
@@ -494,8 +507,7 @@ final class Model {
     List<Integer> image() {
         List<Integer> all = new ArrayList<>();
         for (Stone s : stones) {
-            all.add(s.place < 0 ? 0 : s.place);
-            all.add(s.place < 0 ? 0 : 1);
+            all.add(s.place < 0 ? 0 : s.place + 1);
         }
         for (House h : houses) {
             all.add(h.ruin ? 1 : 0);

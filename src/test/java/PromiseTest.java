@@ -766,7 +766,15 @@ public final class PromiseTest {
         x.undo();
         x.undo();
         x.wall(8, 9999);
-        due("33: held up by a wall", x.whence(0, NONE), 6);
+        due("33: a wall would hold less", x.whence(0, NONE), 0);
+        due("33: a wall would hold less", x.whence(0, 0), NONE);
+        x.undo();
+        x.net(6, true);
+        x.wall(4, 1);
+        due("33: a wall would be gone", x.whence(0, NONE), 1);
+        due("33: from aside", x.whence(0, 0), 7);
+        x.undo();
+        due("33: as it was", x.whence(0, NONE), 6);
         for (int k = 0; k < want.length; k++) {
             due("33: whence(0, " + k + ")", x.whence(0, k), want[k]);
         }
@@ -774,6 +782,22 @@ public final class PromiseTest {
         due("33: none such", x.whence(-1, NONE), NONE);
         x.take(0);
         due("33: taken", x.whence(0, NONE), NONE);
+        whencesAtAStone();
+    }
+
+    /** What lies at 0 2 would stay there only because another one lies below it, at 0 3. */
+    private static void whencesAtAStone() {
+        String upper = "stone s weight 1 rest 9999 at 0 2;";
+        BoulderDowry still = stair(upper + "stone t weight 1 rest 9999 at 0 3;");
+        due("33: held up by a stone that stays", still.whence(0, NONE), 5);
+        BoulderDowry started = stair(upper + "stone t weight 1 rest 0 at 0 3;");
+        due("33: it would start another one", started.whence(0, NONE), 0);
+        BoulderDowry barred = stair(upper + "stone t weight 1 rest 0 at 0 3;stone u weight 1 rest 9999 at 0 4;");
+        due("33: it would start one that then stays", barred.whence(0, NONE), 0);
+        BoulderDowry slow = stair(upper + "stone t weight 1 rest 49 at 0 3;");
+        due("33: it would start another one from high up alone", slow.whence(0, NONE), 2);
+        due("33: not from high up", slow.whence(0, 0), 0);
+        due("33: not from high up", slow.whence(0, 1), 2);
     }
 
     private static void leaning() {
@@ -850,7 +874,7 @@ public final class PromiseTest {
                 + "wall 515 at 0 1;rough 9 at 1 1;");
         x.take(1);
         x.net(1, true);
-        int[] want = {3, 1, 0, 0, 0, 0, 0, 0, 0, 0, 0, 0, 1, 2, 3, 0, 0, 0, 0, 9, 0, 0};
+        int[] want = {4, 0, 0, 0, 0, 0, 0, 0, 0, 0, 1, 2, 3, 0, 0, 0, 0, 9, 0, 0};
         int c = 83;
         for (int i = 0; i < want.length - 1; i++) {
             c = (3 * c + want[i]) % 253;
@@ -864,7 +888,7 @@ public final class PromiseTest {
         due("38: ahead", x.octet(-1), NONE);
         due("38: far", x.octet(FAR), NONE);
         x.undo();
-        due("38: of the latest image", x.octet(0), 3);
+        due("38: of the latest image", x.octet(0), 4);
         due("38: before any", new BoulderDowry().octet(0), NONE);
     }
 
@@ -909,8 +933,9 @@ public final class PromiseTest {
         BoulderDowry x = Check.of(text.toString());
         x.net(59, true);
         byte[] image = Check.image(x);
-        due("37: bytes", image.length, 20 + 8 + 240 + 1);
-        due("38: the last cell's net", x.octet(267), 1);
+        due("37: bytes", image.length, 10 + 8 + 240 + 1);
+        due("38: the last cell's net", x.octet(257), 1);
+        due("38: the last stone", x.octet(9), 60);
         x.net(59, false);
         Check.feed(x, image);
         due("39: on", x.on(), true);
@@ -927,34 +952,40 @@ public final class PromiseTest {
     }
 
     private static void badImages() {
-        // Bytes: stones 0 .. 3, house 4, cell i from 5 + 4 i on.
+        // Bytes: stones 0 and 1, house 2, cell i from 3 + 4 i on.
         spoiled = Check.of("field 2 3;stone s weight 1 rest 0 at 0 0;stone t weight 1 rest 0 at 1 0;house h worth 1 at 0 1;wall 7 at 1 1;");
         BoulderDowry x = spoiled;
         byte[] image = Check.image(x);
-        spoil("as it was", image, 0, 0, true);
-        spoil("another place", image, 0, 5, true);
-        spoil("no such place", image, 0, 6, false);
-        spoil("two in one place", image, 0, 1, false);
-        spoil("in a whole house", image, 0, 2, false);
-        spoil("in a wall", image, 0, 3, false);
-        spoil("taken", image, 1, 0, true);
-        spoil("neither", image, 1, 2, false);
-        spoil("taken, but somewhere", image, 3, 0, false);
-        spoil("a ruin", image, 4, 1, true);
-        spoil("no ruin", image, 4, 2, false);
-        spoil("a wall where a stone lies", image, 6, 1, false);
-        spoil("a wall in a whole house", image, 14, 1, false);
-        spoil("a wall elsewhere", image, 22, 1, true);
-        spoil("a wall that holds 9999", Check.checked(with(image, 21, 39)), 22, 15, true);
-        spoil("a wall that holds 10000", Check.checked(with(image, 21, 39)), 22, 16, false);
-        spoil("roughness 99", image, 7, 99, true);
-        spoil("roughness 100", image, 7, 100, false);
-        spoil("a net", image, 8, 1, true);
-        spoil("no net", image, 8, 2, false);
-        due("39: refused", x.status(5), 12);
-        spoil("a stone in a ruin", with(image, 4, 1), 0, 2, true);
+        due("37: bytes", image.length, 2 + 1 + 24 + 1);
+        spoil("as it was", image, 0, 1, true);
+        spoil("the last place", image, 0, 6, true);
+        due("39: it lies there", x.stone(0, 2), 5);
+        spoil("no such place", image, 0, 7, false);
+        spoil("no such place by far", image, 0, 255, false);
+        spoil("two in one place", image, 0, 2, false);
+        spoil("in a whole house", image, 0, 3, false);
+        spoil("in a wall", image, 0, 4, false);
+        due("39: all stays", x.stone(0, 2), 5);
+        spoil("taken", image, 0, 0, true);
+        due("39: it is taken", x.stone(0, 2), NONE);
+        spoil("both taken", with(image, 1, 0), 0, 0, true);
+        due("39: both are taken", x.has(9), 0);
+        spoil("a ruin", image, 2, 1, true);
+        spoil("no ruin", image, 2, 2, false);
+        spoil("a wall where a stone lies", image, 4, 1, false);
+        spoil("a wall where a taken stone lay", with(image, 0, 0), 4, 1, true);
+        spoil("a wall in a whole house", image, 12, 1, false);
+        spoil("a wall elsewhere", image, 20, 1, true);
+        spoil("a wall that holds 9999", with(image, 19, 39), 20, 15, true);
+        spoil("a wall that holds 10000", with(image, 19, 39), 20, 16, false);
+        spoil("roughness 99", image, 5, 99, true);
+        spoil("roughness 100", image, 5, 100, false);
+        spoil("a net", image, 6, 1, true);
+        spoil("no net", image, 6, 2, false);
+        due("39: refused", x.status(5), 11);
+        spoil("a stone in a ruin", with(image, 2, 1), 0, 3, true);
         due("39: it lies there", x.stone(0, 2), 2);
-        spoil("a wall in a ruin", with(image, 4, 1), 14, 1, true);
+        spoil("a wall in a ruin", with(image, 2, 1), 12, 1, true);
         byte[] wrong = image.clone();
         wrong[wrong.length - 1] ^= 1;
         Check.feed(x, wrong);
