@@ -1870,7 +1870,8 @@ public final class BoulderDowry {
             count = 0;
             boolean wordy = false;
             int at = 0;
-            while (at < length && at < text.length) {
+            // Each round goes on by a byte at least.
+            for (int round = 0; round < MAX_TAPE && at < length && at < text.length; round++) {
                 int sign = text[at];
                 int from = at;
                 if (isLetter(sign) || isDigit(sign)) {
