@@ -4,6 +4,7 @@ import java.nio.charset.StandardCharsets;
 final class Check {
     private static int asked = 0;
     private static int wrong = 0;
+    private static String beside = "";
 
     private Check() {
     }
@@ -14,12 +15,24 @@ final class Check {
             wrong++;
             if (wrong <= 40) {
                 System.out.println(what + " answered " + got + ", due is " + want);
+                if (!beside.isEmpty()) {
+                    System.out.println("  for " + beside);
+                }
             }
         }
     }
 
     static void due(String what, boolean got, boolean want) {
         due(what, got ? 1 : 0, want ? 1 : 0);
+    }
+
+    static int asked() {
+        return asked;
+    }
+
+    /** The words of the document that what is asked from now on stands for. */
+    static void beside(String words) {
+        beside = words;
     }
 
     static void finish(String name) {

@@ -2,42 +2,22 @@ import java.util.Random;
 
 /** Promises 4 and 5: which texts are slopes, and where the first fault of the others is. */
 public final class FaultTest {
-    private static final String F = "field 3 4;";
+    private static final String F = Texts.FIELD;
 
     private static void fault(String text, int kind, int place) {
-        BoulderDowry x = new BoulderDowry();
-        String shown = text.length() > 90 ? text.substring(0, 40) + " .. " + text.substring(text.length() - 40) : text;
-        Check.due("slope() of " + shown, Check.tell(x, text), BoulderDowry.NONE);
-        Check.due("fault(0) of " + shown, x.fault(0), kind);
-        Check.due("fault(1) of " + shown, x.fault(1), place);
-        Check.due("status(1) of " + shown, x.status(1), 1);
+        Texts.fault(text, kind, place);
     }
 
-    /** A fault behind F, at that byte of the rest. */
-    private static void behind(String rest, int kind, int place) {
-        fault(F + rest, kind, F.length() + place);
-    }
-
-    /** A fault at the place where the mark ! stands (which is taken out). */
     private static void marked(String rest, int kind) {
-        int place = rest.indexOf('!');
-        behind(rest.substring(0, place) + rest.substring(place + 1), kind, place);
+        Texts.marked(rest, kind);
     }
 
     private static void fine(String text, int statements) {
-        BoulderDowry x = new BoulderDowry();
-        Check.due("slope() of " + text, Check.tell(x, text), statements);
-        Check.due("fault(0) of " + text, x.fault(0), 0);
-        Check.due("fault(1) of " + text, x.fault(1), BoulderDowry.NONE);
-        Check.due("status(1) of " + text, x.status(1), 0);
+        Texts.fine(text, statements);
     }
 
     private static String times(String part, int n) {
-        StringBuilder all = new StringBuilder();
-        for (int i = 0; i < n; i++) {
-            all.append(part.replace("#", "" + (char) ('a' + i)).replace("@", i % 3 + " " + i / 3));
-        }
-        return all.toString();
+        return Texts.times(part, n);
     }
 
     private static void whole() {
