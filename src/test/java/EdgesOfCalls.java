@@ -226,6 +226,10 @@ final class EdgesOfCalls {
         bare(x);
         due("another one", Check.tell(x, full), 12);
         bare(x);
+        for (int i = 1; i <= 6; i++) {
+            due("long LAWS", Check.tell(x, "field 2 2;due 0" + ("+" + i).repeat(700) + " when all;"), 2);
+            due("of that SLOPE alone", x.law(0, 0, 0, 0, 0), 700 * i);
+        }
     }
 
     private static void bare(BoulderDowry x) {

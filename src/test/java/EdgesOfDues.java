@@ -15,6 +15,7 @@ final class EdgesOfDues {
         sums();
         facts();
         told();
+        toldAtOnce();
     }
 
     private static void says(String words) {
@@ -219,5 +220,26 @@ final class EdgesOfDues {
         x.undo();
         due("undone", x.has(12), 84);
         due("of all", x.owner(1, 4), 7 * 84);
+    }
+
+    /** Six stones, eight walls and a house below each. */
+    private static void toldAtOnce() {
+        says("A DUE above 0 is told (the first 99 of all).");
+        StringBuilder text = new StringBuilder("field 6 10;owner a;owner b;land a at 0 0 to 5 0;land b at 0 1 to 5 9;due 7 when all;");
+        for (int i = 0; i < 10; i++) {
+            text.append("row" + (" " + (900 - 90 * i)).repeat(6) + ";");
+        }
+        for (int i = 0; i < 6; i++) {
+            text.append("stone s" + (char) ('a' + i) + " weight 999 rest 0 at " + i + " 0;");
+            text.append("house h" + (char) ('a' + i) + " worth 1 at " + i + " 9;");
+        }
+        BoulderDowry x = Check.of(text.toString());
+        for (int i = 6; i < 54; i++) {
+            due("built", x.wall(i, i) ? 1 : 0, 1);
+        }
+        due("all ROLL", x.spring(0), 6);
+        due("48 WALLS, 6 HOUSES", x.has(12), 54);
+        due("all are paid", x.owner(0, 4), -7 * 54);
+        row("the last one", x, 53, 0, 1, 7, 5);
     }
 }

@@ -137,6 +137,9 @@ final class EdgesOfOdds {
         BoulderDowry x = Check.of(STRIPES + "stone s weight 9 rest 0 at 0 0;stone t weight 1 rest 60 at 0 2;");
         crew("one man moves both, for s pushes t", x, 3, 1, 1, 0, 0, 1);
         crew("t alone takes six", x, 2, 1, 6, 1);
+        x = Check.of("field 2 2;row 45 43;row 27 29;owner a;land a at 1 0 to 1 0;land a at 0 1 to 0 1;"
+                + "stone s weight 132 rest 0 at 1 1;stone t weight 1 rest 84 at 1 0;");
+        crew("one man for s, not eight for t that pushes it", x, 3, 0, 1, 0, 0, 1);
         says("of like ones the fewest of the first STONE (by numbers), then of the second;");
         String upper = " weight 1 rest 20 at 0 0;";
         String lower = " weight 1 rest 20 at 0 2;";
@@ -154,6 +157,9 @@ final class EdgesOfOdds {
         x = Check.of("field 2 3;row 122 108;row 85 71;row 37 41;owner a;owner b;land a at 0 0 to 1 2;land b at 1 0 to 1 0;land b at 0 1 to 0 1;"
                 + "stone s weight 91 rest 87 at 1 0;stone t weight 9 rest 19 at 0 1;stone u weight 113 rest 7 at 0 0;");
         crew("one man for t or for u, which pushes it away; s behind that", x, 7, 0, 6, 0, 1, 1, 2, 0);
+        x = Check.of("field 2 4;row 86 87;row 66 67;row 49 49;row 31 23;owner a;owner b;land b at 0 0 to 1 3;land a at 0 0 to 1 0;land a at 0 2 to 0 2;"
+                + "stone s weight 152 rest 8 at 0 0;stone t weight 1 rest 0 at 0 2;stone u weight 1 rest 11 at 0 3;");
+        crew("one man for t or for u, the latter in a later order", x, 7, 1, 1, 0, 1, 1, 2, 0);
         says("of these the first order (by numbers).");
         x = Check.of("field 3 3;row 9 9 9;row 5 5 5;row 1 1 1;owner o;land o at 0 1 to 2 2;"
                 + "stone a weight 1 rest 0 at 0 0;stone b weight 1 rest 0 at 1 0;stone c weight 1 rest 0 at 2 0;");

@@ -153,6 +153,7 @@ final class EdgesOfStillness {
         says("ROPES hold the heaviest STONE that is not TAKEN (of like ones the first):");
         BoulderDowry x = stair("stone s weight 5 rest 0 at 0 1;stone t weight 9 rest 0 at 0 0;stone u weight 9 rest 0 at 1 4;rope 90;");
         due("the first of like ones", x.ropes(0), 1);
+        due("told first", stair("stone s weight 9 rest 0 at 0 1;stone t weight 8 rest 0 at 0 0;stone u weight 1 rest 0 at 1 4;").ropes(0), 0);
         x.take(1);
         due("not a TAKEN one", x.ropes(0), 2);
         x.take(2);

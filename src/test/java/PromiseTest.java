@@ -5,9 +5,7 @@ public final class PromiseTest {
     private static final int FAR = Integer.MAX_VALUE;
     private static final int LOW = Integer.MIN_VALUE;
 
-    /** A stair of five cells down the left side (places 0 2 4 6 8), each 10 lower; the right side is high. */
-    private static final String STAIR = "field 2 5;row 50 90;row 40 90;row 30 90;row 20 90;row 10 90;"
-            + "owner ann;owner bob;land ann at 0 0 to 1 1;land bob at 0 2 to 0 4;";
+    private static final String STAIR = Texts.STAIR;
 
     private static void due(String what, long got, long want) {
         Check.due(what, got, want);
@@ -18,7 +16,7 @@ public final class PromiseTest {
     }
 
     private static BoulderDowry stair(String more) {
-        return Check.of(STAIR + more);
+        return Texts.stair(more);
     }
 
     private static void newObject() {
@@ -250,61 +248,6 @@ public final class PromiseTest {
         due("14: a wall holds", x.lever(0, 1), 1);
         due("8: so much less", x.cell(4, 4), 560);
         due("12: none for a wall that holds", x.has(12), 0);
-    }
-
-    /** A way of 32 cells in windings: four stones go down it one by one, through 28 walls each that are built anew. */
-    private static void manyDues() {
-        int[] way = new int[32];
-        int[] height = new int[60];
-        java.util.Arrays.fill(height, 999);
-        for (int i = 0; i < 32; i++) {
-            way[i] = i < 10 ? i : i == 10 ? 19 : i < 21 ? 29 - (i - 11) : i == 21 ? 30 : 40 + i - 22;
-            height[way[i]] = 990 - 25 * i;
-        }
-        StringBuilder text = new StringBuilder("field 10 6;owner a;owner b;land b at 0 0 to 9 5;land a at 0 0 to 3 0;due 7 when all;");
-        for (int i = 0; i < 60; i++) {
-            text.append(i % 10 == 0 ? "row " : " ").append(height[i]).append(i % 10 == 9 ? ";" : "");
-        }
-        for (int i = 0; i < 4; i++) {
-            text.append("stone s" + (char) ('a' + i) + " weight 999 rest 0 at " + i + " 0;");
-        }
-        BoulderDowry x = Check.of(text.toString());
-        for (int stone = 3; stone >= 0; stone--) {
-            for (int i = 4; i < 32; i++) {
-                x.wall(way[i], 1);
-            }
-            due("14: down all the way", x.lever(stone, 1), 31 - stone);
-            due("12: told, 99 at most", x.has(12), Math.min(99, 28 * (4 - stone)));
-            due("11: all of them, told or not", x.owner(1, 4), 7 * 28 * (4 - stone));
-            if (stone > 0) {
-                x.take(stone);
-            }
-        }
-        due("12: the last one", x.due(98, 3), 0);
-        due("12: none behind it", x.due(99, 3), NONE);
-        due("22: undo", x.undo(), true);
-        due("22: told ahead of it", x.has(12), 84);
-        due("22: paid ahead of it", x.owner(0, 4), -7 * 84);
-    }
-
-    /** Six stones, nine walls below each: 54 dues by one spring. */
-    private static void manyDuesAtOnce() {
-        StringBuilder text = new StringBuilder("field 6 10;owner a;owner b;land a at 0 0 to 5 0;land b at 0 1 to 5 9;due 7 when all;");
-        for (int i = 0; i < 10; i++) {
-            text.append("row" + (" " + (900 - 90 * i)).repeat(6) + ";");
-        }
-        for (int i = 0; i < 6; i++) {
-            text.append("stone s" + (char) ('a' + i) + " weight 999 rest 0 at " + i + " 0;");
-        }
-        BoulderDowry x = Check.of(text.toString());
-        for (int i = 6; i < 60; i++) {
-            due("19: built", x.wall(i, i), true);
-        }
-        due("6: more walls than a text may tell", x.has(3), 54);
-        due("15: six rolls", x.spring(0), 6);
-        due("12: all are told", x.has(12), 54);
-        due("11: all are paid", x.owner(0, 4), -7 * 54);
-        due("12: stone by stone", x.due(53, 3), 5);
     }
 
     private static void laws() {
@@ -1043,8 +986,6 @@ public final class PromiseTest {
         cellsStonesHouses();
         owners();
         dues();
-        manyDues();
-        manyDuesAtOnce();
         laws();
         levers();
         pushes();
